@@ -1191,7 +1191,7 @@ public final class SubwordCounter {
 
         /** Sets counts[i] to the number of words of length i that lead to states marked 1, for i from 0 to longest. */
         void countByLength(long[] counts, int longest) {
-            Arrays.fill(paths, 0);
+            clearPaths(paths);
             paths[0] = 1;
             for (int n = 0; n <= longest && n < counts.length; n++) {
                 counts[n] = markedPaths();
@@ -1210,13 +1210,19 @@ public final class SubwordCounter {
         }
 
         private void lengthenPaths() {
-            Arrays.fill(longerPaths, 0);
+            clearPaths(longerPaths);
             for (int s = 0; s < states; s++) {
                 for (int c = 0; c < letters; c++) {
                     longerPaths[next[s * MOST_LETTERS + c]] += paths[s];
                 }
             }
-            System.arraycopy(longerPaths, 0, paths, 0, MOST);
+            System.arraycopy(longerPaths, 0, paths, 0, states);
+        }
+
+        private void clearPaths(long[] cleared) {
+            for (int s = 0; s < states; s++) {
+                cleared[s] = 0;
+            }
         }
     }
 
@@ -1289,9 +1295,11 @@ public final class SubwordCounter {
 
         private void gatherSources(Automaton automaton) {
             int filled = 0;
-            Arrays.fill(sourceStart, 0);
             for (int c = 0; c < automaton.letters; c++) {
                 int base = c * (Automaton.MOST + 1);
+                for (int t = 0; t < automaton.states; t++) {
+                    sourceStart[base + t] = 0;
+                }
                 for (int s = 0; s < automaton.states; s++) {
                     sourceStart[base + automaton.next[s * MOST_LETTERS + c]]++;
                 }
@@ -1370,7 +1378,9 @@ public final class SubwordCounter {
         /** Whether every letter permutes the blocks. */
         boolean isPermuted(Automaton automaton) {
             for (int c = 0; c < automaton.letters; c++) {
-                Arrays.fill(hit, 0);
+                for (int b = 0; b < blocks; b++) {
+                    hit[b] = 0;
+                }
                 for (int b = 0; b < blocks; b++) {
                     int to = nextBlock(automaton, b, c);
                     if (hit[to] == 1) {
