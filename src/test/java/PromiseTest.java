@@ -89,6 +89,7 @@ public final class PromiseTest {
             "concatenate(1, 1) = FULL; concatenate(0, 0) = 12; text(0) = \"abababababab\"; concatenate(0, 2) = 12; concatenate(0, 0) = FULL");
         promise(10, "compare(0, 1) = 1; compare(2, 2) = 1; word(0, \"b\") = 1; word(1, \"aa\") = 2; compare(0, 1) = 0; compare(1, 0) = 2",
             "word(0, \"ab\") = 2; compare(0, 1) = 2; compare(1, 0) = 0; word(1, \"ab\") = 2; compare(0, 1) = 1; compare(0, 2) = 2",
+            "word(1, \"bb\") = 2; compare(0, 1) = 0; compare(1, 0) = 2; word(0, \"ba\") = 2; compare(0, 1) = 0; compare(1, 0) = 2; clearWord(0) = 2; compare(0, 2) = 1",
             "compare(0, 3) = BAD_ARGUMENT; compare(3, 0) = BAD_ARGUMENT; compare(-1, 0) = BAD_ARGUMENT; compare(0, -1) = BAD_ARGUMENT");
     }
 
@@ -104,7 +105,7 @@ public final class PromiseTest {
             "text(0) = \"abba\"; text(1) = \"baab\"");
         // The third register is the one that is not named.
         promise(12, "word(2, \"aaa\") = 3; word(0, \"a\") = 1; separate(2, 0) = 3; text(1) = \"a\"; word(1, \"aaaaaaa\") = 7",
-            "separate(1, 0) = 4; text(2) = \"a\"; word(2, \"aaaaaaaaaaaa\") = 12; clearWord(1) = 7; separate(1, 2) = 5; text(0) = \"a\"");
+            "separate(1, 0) = 4; text(2) = \"a\"; word(2, \"aaaaaaaaaaaa\") = 12; clearWord(1) = 7; word(0, \"bb\") = 2; separate(1, 2) = 5; text(0) = \"a\"");
         promise(12, "word(0, \"ab\") = 2; word(1, \"ab\") = 2; word(2, \"bbb\") = 3; separate(0, 1) = NONE; text(2) = \"bbb\"",
             "separate(0, 0) = BAD_ARGUMENT; separate(2, 2) = BAD_ARGUMENT; separate(0, 3) = BAD_ARGUMENT; separate(3, 0) = BAD_ARGUMENT",
             "separate(-1, 0) = BAD_ARGUMENT; separate(0, -1) = BAD_ARGUMENT; separate(4, 4) = BAD_ARGUMENT; text(2) = \"bbb\"");
@@ -173,6 +174,8 @@ public final class PromiseTest {
         promise(22, "setLetters(3) = 2; findCollision() = 1; text(0) = \"a\"; text(1) = \"b\"; add(\"b%2\") = 0; findCollision() = 1; text(0) = \"a\"; text(1) = \"c\"",
             "removeTest(0) = 0; add(\"a%2\") = 0; findCollision() = 1; text(0) = \"b\"; text(1) = \"c\"");
         promise(22, "setLetters(1) = 2; word(0, \"aa\") = 2; word(1, \"a\") = 1; findCollision() = NONE; text(0) = \"aa\"; text(1) = \"a\"");
+        promise(22, "add(\"a^9\") = 0; add(\"ab^9\") = 1; add(\"ab%8\") = 2; add(\"aba%9\") = 3; add(\"abba%9\") = 4; add(\"aab%9\") = 5; classes(6) = 64; classes(7) = 126",
+            "findCollision() = 7; text(0) = \"abbaaab\"; text(1) = \"baaabba\"");
         // The occurrences of these patterns tell all words of up to seven letters apart.
         promise(22, "add(\"a%9\") = 0; add(\"ba%8\") = 1; add(\"ba%9\") = 2; add(\"aab%9\") = 3; add(\"baba%9\") = 4; add(\"bbaa%7\") = 5; classes(7) = 128",
             "word(0, \"b\") = 1; word(1, \"bb\") = 2; findCollision() = NONE; text(0) = \"b\"; text(1) = \"bb\"");
@@ -182,6 +185,7 @@ public final class PromiseTest {
         promise(23, "states(0) = BAD_ARGUMENT; add(\"ab%3\") = 0; add(\"ba^2\") = 1; add(\"#%7\") = 2; add(\"abab%7\") = 3; add(\"abab%6\") = 4; states(0) = 9",
             "states(1) = 7; states(2) = 7; states(3) = TOO_LARGE; states(4) = 648; states(5) = BAD_ARGUMENT; states(-1) = BAD_ARGUMENT",
             "states(MAX) = BAD_ARGUMENT; states(MIN) = BAD_ARGUMENT; add(\"aaaa%9\") = 5; states(5) = 27");
+        promise(23, "setLetters(3) = 2; add(\"cbba^8\") = 0; states(0) = 1839; add(\"cbba^9\") = 1; states(1) = TOO_LARGE");
         promise(23, "setLetters(1) = 2; add(\"aaa^4\") = 0; states(0) = 5; add(\"aaaa%8\") = 1; states(1) = 32; add(\"a^1\") = 2; states(2) = 2");
         promise(24, "minimalStates(0) = BAD_ARGUMENT; add(\"ab%3\") = 0; add(\"ba^2\") = 1; add(\"#%7\") = 2; add(\"abab%7\") = 3; minimalStates(0) = 9",
             "minimalStates(1) = 5; minimalStates(2) = 7; minimalStates(3) = TOO_LARGE; minimalStates(4) = BAD_ARGUMENT; minimalStates(-1) = BAD_ARGUMENT",
@@ -192,9 +196,11 @@ public final class PromiseTest {
         // More states of the minimal automaton than the monoid may have elements.
         promise(25, "add(\"abab%6\") = 0; minimalStates(0) = 648; monoidSize(0) = TOO_LARGE; setLetters(3) = 2; add(\"abc%2\") = 0; monoidSize(0) = 64",
             "setLetters(1) = 3; add(\"a^1\") = 0; monoidSize(0) = 2");
+        // The largest monoid of a test that is allowed, and the smallest one that is not.
+        promise(25, "setLetters(3) = 2; add(\"abba^7\") = 0; monoidSize(0) = 391; add(\"abab^9\") = 1; monoidSize(1) = TOO_LARGE; minimalStates(1) = 70; monoidSize(0) = 391");
         promise(26, "isGroup(0) = BAD_ARGUMENT; add(\"ab%3\") = 0; add(\"ba^2\") = 1; add(\"#%7\") = 2; add(\"abab%7\") = 3; add(\"ab%9\") = 4",
             "isGroup(0) = 1; isGroup(1) = 0; isGroup(2) = 1; isGroup(3) = TOO_LARGE; isGroup(4) = 1; monoidSize(4) = TOO_LARGE",
-            "isGroup(5) = BAD_ARGUMENT; isGroup(-1) = BAD_ARGUMENT; add(\"abab%6\") = 5; isGroup(5) = 1");
+            "isGroup(5) = BAD_ARGUMENT; isGroup(-1) = BAD_ARGUMENT; add(\"abab%6\") = 5; isGroup(5) = 1; removeTest(5) = 5; add(\"a^1\") = 5; isGroup(5) = 0");
     }
 
     private static void languageRegisters() {
