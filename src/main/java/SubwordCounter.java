@@ -43,6 +43,7 @@ public final class SubwordCounter {
     private static final int NULL_TYPE = -1;
     private static final int SHORT_TYPE = 0;
     private static final int INT_TYPE = 1;
+    private static final long NO_ELEMENT = -9223372036854775808L;
 
     private final Registers now = new Registers();
     private final Registers saved = new Registers();
@@ -474,7 +475,7 @@ public final class SubwordCounter {
     public long element(int row, int i) {
         // A null row has no elements, so the size tells both.
         if (!isRow(row) || i < 0 || i >= rows[row].size) {
-            return Long.MIN_VALUE;
+            return NO_ELEMENT;
         }
         return rows[row].elements[i];
     }
