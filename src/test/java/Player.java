@@ -93,7 +93,8 @@ final class Player {
         return text.substring(1, text.length() - 1);
     }
 
-    private static Map<String, Method> methods(Class<?> of) {
+    /** The public methods of a class by their names, each of which stands for one. */
+    static Map<String, Method> methods(Class<?> of) {
         Map<String, Method> found = new HashMap<>();
         for (Method method : of.getMethods()) {
             if (method.getDeclaringClass() == of) {

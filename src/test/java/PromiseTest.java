@@ -214,6 +214,8 @@ public final class PromiseTest {
             "complement(0, 0) = 1; form(0) = 1; contains(0, 0) = 1; complement(0, 0) = 1; form(0) = 1; contains(0, 0) = 0",
             "complement(0, 3) = EMPTY_REGISTER; complement(4, 3) = BAD_ARGUMENT; complement(0, 4) = BAD_ARGUMENT; complement(-1, 0) = BAD_ARGUMENT",
             "complement(0, -1) = BAD_ARGUMENT; form(3) = EMPTY_REGISTER; intersect(2, 0, 1) = 2; unite(2, 2, 2) = 4; complement(3, 2) = 4; form(3) = 1");
+        // 512 calls, of which the last one still answers.
+        promise(28, "add(\"a%2\") = 0; setBasic(0, 0, 1) = 1; 506 x complement(0, 0) = 1; contains(0, 0) = 0");
         promise(29, "add(\"a%2\") = 0; add(\"b%2\") = 1; setBasic(0, 0, 1) = 1; setBasic(1, 1, 1) = 1; intersect(2, 0, 1) = 2; form(2) = 2",
             "word(0, \"ab\") = 2; word(1, \"a\") = 1; word(2, \"b\") = 1; contains(2, 0) = 1; contains(2, 1) = 0; contains(2, 2) = 0",
             "intersect(0, 0, 3) = EMPTY_REGISTER; intersect(0, 3, 0) = EMPTY_REGISTER; intersect(4, 3, 3) = BAD_ARGUMENT; intersect(0, 4, 3) = BAD_ARGUMENT",

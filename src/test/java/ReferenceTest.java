@@ -1,7 +1,6 @@
 import java.lang.reflect.InvocationTargetException;
 import java.lang.reflect.Method;
 import java.util.ArrayList;
-import java.util.HashMap;
 import java.util.List;
 import java.util.Map;
 import java.util.Random;
@@ -21,8 +20,8 @@ public final class ReferenceTest {
         "countWords gm 6", "firstWord gw 6", "firstDifference ggw 8", "newRow ryz 8", "setElement riv 8", "element ri 4",
         "copyElements ririn 10", "fillCounts rg 4", "saveSnapshot - 2", "restoreSnapshot - 2", "TEST - 25",
     };
-    private static final Map<String, Method> PROGRAM = methods(SubwordCounter.class);
-    private static final Map<String, Method> REFERENCE = methods(Reference.class);
+    private static final Map<String, Method> PROGRAM = Player.methods(SubwordCounter.class);
+    private static final Map<String, Method> REFERENCE = Player.methods(Reference.class);
 
     private final Random random;
     private final long seed;
@@ -221,15 +220,5 @@ public final class ReferenceTest {
             System.out.println("  " + line);
         }
         System.out.println("  " + what);
-    }
-
-    private static Map<String, Method> methods(Class<?> of) {
-        Map<String, Method> found = new HashMap<>();
-        for (Method method : of.getMethods()) {
-            if (method.getDeclaringClass() == of) {
-                found.put(method.getName(), method);
-            }
-        }
-        return found;
     }
 }
