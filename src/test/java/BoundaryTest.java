@@ -7,7 +7,7 @@ import java.util.Map;
 import java.util.TreeMap;
 
 /**
- * Plays src/test/boundaries.txt: under each sentence of the document the runs of calls that show it at its bounds. A sentence of the
+ * Plays the examples of the document, and src/test/boundaries.txt: under each sentence of the document the runs of calls that show it at its bounds. A sentence of the
  * document that has no runs there, and one there that the document has not, are faults too. With the argument "reference" the
  * runs are played on Reference instead, which shows that the answers that are due do not come from the program.
  */
@@ -33,7 +33,9 @@ public final class BoundaryTest {
 
     public static void main(String[] args) throws IOException {
         Class<?> kind = args.length > 0 && args[0].equals("reference") ? Reference.class : SubwordCounter.class;
-        BoundaryTest test = new BoundaryTest(kind, DocumentSection.readAll(Files.readString(DOCUMENT)));
+        String document = Files.readString(DOCUMENT);
+        BoundaryTest test = new BoundaryTest(kind, DocumentSection.readAll(document));
+        test.playExamples(DocumentSection.examples(document));
         for (String line : Files.readAllLines(RUNS)) {
             test.take(line);
         }
@@ -42,6 +44,13 @@ public final class BoundaryTest {
         System.out.println(test.wrong == 0 ? test.runs + " runs at the bounds are as due" : test.wrong + " faults");
         if (test.wrong != 0) {
             System.exit(1);
+        }
+    }
+
+    private void playExamples(Map<String, String> examples) {
+        for (Map.Entry<String, String> example : examples.entrySet()) {
+            runs++;
+            wrong += Script.run(kind, example.getKey(), example.getValue());
         }
     }
 

@@ -8,7 +8,7 @@ import java.util.regex.Matcher;
 import java.util.regex.Pattern;
 
 /**
- * The Description or one promise of the document, in the parts that each want a test: the sentences of its text, what it says
+ * One section of the document, such as the Description or a promise, in the parts that each want a test: the sentences of its text, what it says
  * of each argument, and each part of its line "Returns .." between semicolons.
  */
 final class DocumentSection {
@@ -33,20 +33,34 @@ final class DocumentSection {
         }
     }
 
-    /** The sections by their names: Description, Promise 1 and so on. */
+    /** The sections that say how the class behaves, by their names: What it is, Description, Promise 1 and so on. */
     static Map<String, DocumentSection> readAll(String document) {
         Map<String, DocumentSection> found = new LinkedHashMap<>();
-        Matcher heads = Pattern.compile("(?ms)^## (Description|Promise \\d+)[^\n]*\n(.*?)(?=^## |\\z)").matcher(document);
+        Matcher heads = Pattern.compile("(?ms)^## (What it is|Description|Promise \\d+)[^\n]*\n(.*?)(?=^## |\\z)").matcher(document);
         while (heads.find()) {
             found.put(heads.group(1), new DocumentSection(withoutExamples(heads.group(2))));
         }
-        if (found.size() != 45) {
+        if (found.size() != 46) {
             throw new IllegalStateException("the document has " + found.size() + " sections");
         }
         return found;
     }
 
-    /** The examples are calls, which PromiseTest plays; what follows them are the constants. */
+    /** The calls of each example, by what the example is said to be of. */
+    static Map<String, String> examples(String document) {
+        Map<String, String> found = new LinkedHashMap<>();
+        Matcher all = Pattern.compile("(?s)Examples, each with a new object: calls and their results\\.(.*?)The constants:").matcher(document);
+        if (!all.find()) {
+            throw new IllegalStateException("the document has no examples");
+        }
+        for (String block : all.group(1).trim().split("\n\\s*\n")) {
+            String[] parts = oneLine(block).split(": ", 2);
+            found.put(parts[0], withoutStop(parts[1]));
+        }
+        return found;
+    }
+
+    /** The examples are played as they stand there; what follows them are the constants. */
     private static String withoutExamples(String body) {
         return body.replaceAll("(?s)Examples, each with a new object.*The constants:", "")
             .replace("The constructor and the methods follow, a promise each: the signature, then what it does.", "");

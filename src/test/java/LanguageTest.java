@@ -18,6 +18,7 @@ public final class LanguageTest {
 
     public static void main(String[] args) throws IOException {
         checkFace();
+        checkSignatures();
         Set<String> publicNames = new TreeSet<>();
         for (Method method : SubwordCounter.class.getMethods()) {
             if (method.getDeclaringClass() == SubwordCounter.class) {
@@ -57,6 +58,18 @@ public final class LanguageTest {
         }
         expect(due.size() > 50, "the document's face was not found");
         expect(due.equals(face()), "the face is " + face() + ", due is " + due);
+    }
+
+    /** Each promise begins with a signature, whose arguments bear the names that the promise uses. */
+    private static void checkSignatures() throws IOException {
+        String source = Files.readString(SOURCE);
+        Matcher signatures = Pattern.compile("(?m)^## Promise \\d+: .*\\R\\R`(.*)`$").matcher(Files.readString(DOCUMENT));
+        int found = 0;
+        while (signatures.find()) {
+            found++;
+            expect(source.contains("    public " + signatures.group(1) + " {\n"), "the source has no " + signatures.group(1));
+        }
+        expect(found == 44, "the document has " + found + " signatures");
     }
 
     /** The visible members, written as in the document but without the names of the arguments. */

@@ -6,12 +6,7 @@ public final class PromiseTest {
         wrong += Script.run("promise " + number, lines);
     }
 
-    private static void example(String... lines) {
-        wrong += Script.run("example", lines);
-    }
-
     public static void main(String[] args) {
-        examples();
         newObject();
         alphabet();
         wordCalls();
@@ -28,18 +23,6 @@ public final class PromiseTest {
         if (wrong != 0) {
             System.exit(1);
         }
-    }
-
-    private static void examples() {
-        example("append(0, 0) = 1; append(0, 1) = 2; append(0, 0) = 3; append(0, 1) = 4;",
-            "append(1, 0) = 1; append(1, 1) = 2; occurrences(1, 0) = 3; compare(0, 1) = 2");
-        example("feed(97) = 1; feed(98) = 2; feed(37) = 3; feed(51) = 4; addTest() = 0; states(0) = 9;",
-            "monoidSize(0) = 27; isGroup(0) = 1");
-        example("feed(97) = 1; feed(94) = 2; feed(50) = 3; addTest() = 0; setBasic(0, 0, 2) = 1;",
-            "countWords(0, 3) = 4; firstWord(0, 1) = 2; length(1) = 2; languageStates(0) = 3");
-        example("feed(97) = 1; feed(98) = 2; addTest() = -102");
-        example("append(0, 0) = 1; append(0, 1) = 2; append(1, 1) = 1; append(1, 0) = 2;",
-            "separate(0, 1) = 2; length(2) = 2");
     }
 
     private static void newObject() {

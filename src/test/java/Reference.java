@@ -18,6 +18,8 @@ public final class Reference {
     private static final int FULL = -3;
     private static final int LARGE = -4;
     private static final int EMPTY = -5;
+    // Counting anew from whole words is slow, and runs ask for the same automata again and again; null stands for too large ones.
+    private static final Map<List<Object>, Automaton> EXPLORED = new HashMap<>();
 
     private int k = 2;
     private String[] words = {"", "", ""};
@@ -348,6 +350,14 @@ public final class Reference {
     }
 
     private Automaton explore(List<Test> read) {
+        List<Object> key = List.of(k, read);
+        if (!EXPLORED.containsKey(key)) {
+            EXPLORED.put(key, exploreAnew(read));
+        }
+        return EXPLORED.get(key);
+    }
+
+    private Automaton exploreAnew(List<Test> read) {
         Map<List<List<Integer>>, Integer> numbers = new HashMap<>();
         List<String> firsts = new ArrayList<>();
         List<List<Integer>> next = new ArrayList<>();
